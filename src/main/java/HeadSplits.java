@@ -1198,8 +1198,17 @@ public final class HeadSplits {
         private final int[] maps = new int[WORDS];
         /** Which words are as the need has it, as bits. */
         private final int[] allowed = new int[VARIABLES];
-        private final int[] best = new int[VARIABLES];
+        /** What is tried for each symbol; a letter is a word of one letter. */
+        private final int[] sizes = new int[SYMBOLS];
+        private final int[] digits = new int[SYMBOLS];
         private int together;
+
+        Trial() {
+            for (int letter = 0; letter < LETTERS; letter++) {
+                sizes[letter] = 1;
+                digits[letter] = letter;
+            }
+        }
 
         void seek(Book book, Tally tally) {
             findMaps(book.machine);
@@ -1217,14 +1226,17 @@ public final class HeadSplits {
 
         private boolean seekOfSize(Book book, Tally tally, int all) {
             for (int x = 0; x < WORDS; x++) {
-                if ((allowed[0] >> x & 1) == 0) {
+                if (!choose(0, x)) {
                     continue;
                 }
                 for (int y = 0; y < WORDS; y++) {
+                    if (!choose(1, y)) {
+                        continue;
+                    }
                     int rest = all - sizeOf(x) - sizeOf(y);
-                    if ((allowed[1] >> y & 1) == 1 && rest >= 0 && rest <= SIZE_MOST
+                    if (rest >= 0 && rest <= SIZE_MOST
                             && tally.wordsGive(sizeOf(x), sizeOf(y), rest) == tally.lacking(0)
-                            && seekLast(book, x, y, rest)) {
+                            && seekLast(book, rest)) {
                         return true;
                     }
                 }
@@ -1232,41 +1244,39 @@ public final class HeadSplits {
             return false;
         }
 
-        private boolean seekLast(Book book, int x, int y, int size) {
+        private boolean seekLast(Book book, int size) {
             for (int z = (1 << size) - 1; z < (2 << size) - 1; z++) {
-                if ((allowed[2] >> z & 1) == 1) {
-                    best[0] = x;
-                    best[1] = y;
-                    best[2] = z;
-                    if (spelled(book.left) == spelled(book.right)) {
-                        return true;
-                    }
+                if (choose(2, z) && spelled(book.left) == spelled(book.right)) {
+                    return true;
                 }
             }
             return false;
+        }
+
+        /** False, if the word is not as the need has it. */
+        private boolean choose(int variable, int word) {
+            if (!isVariable(variable) || (allowed[variable] >> word & 1) == 0) {
+                return false;
+            }
+            sizes[variable + LETTERS] = sizeOf(word);
+            digits[variable + LETTERS] = word + 1 - (1 << sizeOf(word));
+            return true;
         }
 
         /** At most 36 letters as binary digits, a 1 ahead of them: as long ones alone are the same. */
         private long spelled(Row row) {
-            long digits = 1;
+            long all = 1;
             for (int k = 0; k < row.size(); k++) {
                 int symbol = row.at(k);
-                if (isVariable(symbol - LETTERS)) {
-                    int word = best[symbol - LETTERS];
-                    digits = (digits << sizeOf(word)) + digitsOf(word);
-                } else {
-                    digits = (digits << 1) + symbol;
+                if (symbol >= 0 && symbol < SYMBOLS) {
+                    all = (all << sizes[symbol]) + digits[symbol];
                 }
             }
-            return digits;
+            return all;
         }
 
         private static int sizeOf(int word) {
             return word < 1 ? 0 : word < 3 ? 1 : word < 7 ? 2 : 3;
-        }
-
-        private static int digitsOf(int word) {
-            return word + 1 - (1 << sizeOf(word));
         }
 
         /** Words are numbered as in a heap: the word without its last letter is half of it. */
@@ -1289,12 +1299,15 @@ public final class HeadSplits {
 
         /** The face has the first letter lowest, the digits have it highest. */
         int codeOf(int variable) {
-            int word = variable >= 0 && variable < VARIABLES ? best[variable] : 0;
-            int bits = 0;
-            for (int k = 0; k < sizeOf(word); k++) {
-                bits = 2 * bits + (digitsOf(word) >> k & 1);
+            if (!isVariable(variable)) {
+                return NONE;
             }
-            return 100 * sizeOf(word) + bits;
+            int size = sizes[variable + LETTERS];
+            int bits = 0;
+            for (int k = 0; k < size; k++) {
+                bits = 2 * bits + (digits[variable + LETTERS] >> k & 1);
+            }
+            return 100 * size + bits;
         }
     }
 }
