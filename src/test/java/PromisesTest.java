@@ -610,6 +610,11 @@ public final class PromisesTest {
         due("solved", h.net(1), 1);
         due("61 letters", h.answer(0, -1), STATE);
         due("of none then", h.answer(2, -1), STATE);
+        load(h, "x=aaaazzzzzzz");
+        due("60 letters, the last one put ahead a letter", h.answer(0, -1), 60);
+        load(h, "x=aaaaazzzzzzz");
+        due("solved", h.net(1), 1);
+        due("61 letters, by a letter", h.answer(0, -1), STATE);
     }
 
     private static void spelling() {
