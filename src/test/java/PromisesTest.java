@@ -1,100 +1,7 @@
 /** Each promise by its number: ordinary inputs, edges, wrong inputs; answers worked out by hand. */
-public final class PromisesTest {
-    private static final int UNKNOWN = -1, OUTSIDE = -2, STATE = -3, FULL = -4, NO = -5, NONE = -6;
-    private static final int[] FAR = {-1, -2, Integer.MIN_VALUE, Integer.MAX_VALUE};
-    private static int promise = 0;
-    private static int wrong = 0;
-
-    private static void due(String call, int got, int want) {
-        if (got != want) {
-            wrong++;
-            System.out.println("promise " + promise + ": " + call + " answered " + got + ", due is " + want);
-        }
-    }
-
-    private static void say(HeadSplits h, String signs) {
-        for (char c : signs.toCharArray()) {
-            h.say(c);
-        }
-    }
-
-    private static HeadSplits load(HeadSplits h, String signs) {
-        h.wipe();
-        say(h, signs);
-        due("load of " + signs, h.load(), signs.length() - 1);
-        return h;
-    }
-
-    private static HeadSplits of(String signs) {
-        return load(new HeadSplits(), signs);
-    }
-
-    private static int fault(String signs) {
-        HeadSplits h = new HeadSplits();
-        say(h, signs);
-        return h.fault();
-    }
-
-    /** By a the machine goes round, 0 to 1 to 2 to 0; by b it stays. */
-    private static HeadSplits round(HeadSplits h) {
-        for (int s = 0; s < 3; s++) {
-            h.leads(s, 0, (s + 1) % 3);
-        }
-        return h;
-    }
-
-    /** A machine and a need of z of which the short word has 8 letters: no machine needs more. */
-    private static HeadSplits longShort(HeadSplits h) {
-        int[] goes = {2, 0, 1, 0, 1, 0};
-        for (int k = 0; k < 6; k++) {
-            h.leads(k % 3, k / 3, goes[k]);
-        }
-        h.need(2, 0, 2);
-        h.need(2, 1, 4);
-        h.need(2, 2, 4);
-        return h;
-    }
-
-    private static String row(HeadSplits h, int node, int row) {
-        StringBuilder text = new StringBuilder();
-        for (int k = 0; h.symbol(node, row, k) != NONE; k++) {
-            text.append("abxyz".charAt(h.symbol(node, row, k)));
-        }
-        return text.toString();
-    }
-
-    private static void dueNode(HeadSplits h, int node, String rows) {
-        String got = row(h, node, 0) + "=" + row(h, node, 1);
-        if (!got.equals(rows)) {
-            wrong++;
-            System.out.println("promise " + promise + ": node " + node + " is " + got + ", due is " + rows);
-        }
-    }
-
-    private static void dueNeeds(HeadSplits h, int node, int variable, int of0, int of1, int of2) {
-        due("needs " + node + " " + variable + " 0", h.needs(node, variable, 0), of0);
-        due("needs " + node + " " + variable + " 1", h.needs(node, variable, 1), of1);
-        due("needs " + node + " " + variable + " 2", h.needs(node, variable, 2), of2);
-    }
-
-    private static void dueAnswer(HeadSplits h, int variable, String word) {
-        due("answer " + variable + " -1", h.answer(variable, -1), word.length());
-        for (int i = 0; i < word.length(); i++) {
-            due("answer " + variable + " " + i, h.answer(variable, i), word.charAt(i) - 'a');
-        }
-        due("answer " + variable + " behind its end", h.answer(variable, word.length()), NONE);
-    }
-
-    private static void dueBrief(HeadSplits h, int variable, String word) {
-        due("brief " + variable + " -1", h.brief(variable, -1), word.length());
-        for (int i = 0; i < word.length(); i++) {
-            due("brief " + variable + " " + i, h.brief(variable, i), word.charAt(i) - 'a');
-        }
-        due("brief " + variable + " behind its end", h.brief(variable, word.length()), NONE);
-    }
-
+public final class PromisesTest extends Checks {
     private static void newObject() {
-        promise = 1;
+        about("promise 1");
         HeadSplits h = new HeadSplits();
         due("signs", h.told(0), 0);
         due("left", h.told(1), 0);
@@ -119,7 +26,7 @@ public final class PromisesTest {
     }
 
     private static void saying() {
-        promise = 2;
+        about("promise 2");
         HeadSplits h = new HeadSplits();
         for (int sign : new int[] {32, 127, 0, -1, 97 + 256, Integer.MAX_VALUE, Integer.MIN_VALUE}) {
             due("say " + sign, h.say(sign), OUTSIDE);
@@ -136,7 +43,7 @@ public final class PromisesTest {
     }
 
     private static void wiping() {
-        promise = 3;
+        about("promise 3");
         HeadSplits h = new HeadSplits();
         due("wipe", h.wipe(), 0);
         say(h, "ab!");
@@ -150,7 +57,7 @@ public final class PromisesTest {
     }
 
     private static void faults() {
-        promise = 4;
+        about("promise 4");
         due("fault of nothing", fault(""), 0);
         due("fault of =", fault("="), NONE);
         due("fault of abxyz=zyxba", fault("abxyz=zyxba"), NONE);
@@ -175,7 +82,7 @@ public final class PromisesTest {
     }
 
     private static void loading() {
-        promise = 5;
+        about("promise 5");
         HeadSplits h = new HeadSplits();
         due("load of an empty pad", h.load(), NO);
         say(h, "xa=by!");
@@ -201,7 +108,7 @@ public final class PromisesTest {
     }
 
     private static void leading() {
-        promise = 6;
+        about("promise 6");
         HeadSplits h = new HeadSplits();
         due("leads 0 0 2", h.leads(0, 0, 2), 0);
         due("leads 0 0 1", h.leads(0, 0, 1), 2);
@@ -221,7 +128,7 @@ public final class PromisesTest {
     }
 
     private static void needing() {
-        promise = 7;
+        about("promise 7");
         HeadSplits h = new HeadSplits();
         due("need 1 2 5", h.need(1, 2, 5), 7);
         due("need 1 2 0", h.need(1, 2, 0), 5);
@@ -242,7 +149,7 @@ public final class PromisesTest {
     }
 
     private static void briefs() {
-        promise = 8;
+        about("promise 8");
         HeadSplits h = new HeadSplits();
         dueBrief(h, 0, "");
         h.need(0, 0, 2);
@@ -284,7 +191,7 @@ public final class PromisesTest {
     }
 
     private static void nets() {
-        promise = 9;
+        about("promise 9");
         HeadSplits h = of("x=a");
         int[] want = {4, 1, 3, 2, 0, 1};
         for (int w = 0; w < 6; w++) {
@@ -358,7 +265,7 @@ public final class PromisesTest {
     }
 
     private static void nodesOfNet() {
-        promise = 10;
+        about("promise 10");
         HeadSplits h = of("xab=bax");
         // 0: xab=bax; x nothing: 1: ab=ba; x begins with b: 2: xab=abx; then x nothing: 3: the end
         int[][] want = {
@@ -394,7 +301,7 @@ public final class PromisesTest {
     }
 
     private static void symbols() {
-        promise = 11;
+        about("promise 11");
         HeadSplits h = of("xab=yzba");
         int[] left = {2, 0, 1, NONE};
         int[] right = {3, 4, 1, 0, NONE};
@@ -423,7 +330,7 @@ public final class PromisesTest {
     }
 
     private static void needsOfNodes() {
-        promise = 12;
+        about("promise 12");
         HeadSplits h = round(of("x=aaab"));
         h.need(0, 0, 3);
         h.need(0, 1, 4);
@@ -473,7 +380,7 @@ public final class PromisesTest {
     }
 
     private static void moves() {
-        promise = 13;
+        about("promise 13");
         HeadSplits h = of("xa=yb");
         // x nothing, y nothing, x begins with y, y begins with x
         int[] codes = {0, 100, 1000, 1100};
@@ -566,7 +473,7 @@ public final class PromisesTest {
     }
 
     private static void answers() {
-        promise = 14;
+        about("promise 14");
         HeadSplits h = of("xab=bax");
         dueAnswer(h, 0, "b");
         dueAnswer(h, 1, "");
@@ -618,7 +525,7 @@ public final class PromisesTest {
     }
 
     private static void spelling() {
-        promise = 15;
+        about("promise 15");
         HeadSplits h = new HeadSplits();
         for (int n = 1; n <= 12; n++) {
             due("spell 1 " + n % 2, h.spell(1, n % 2), n);
@@ -639,7 +546,7 @@ public final class PromisesTest {
     }
 
     private static void clearing() {
-        promise = 16;
+        about("promise 16");
         HeadSplits h = new HeadSplits();
         h.spell(0, 1);
         h.spell(0, 1);
@@ -657,7 +564,7 @@ public final class PromisesTest {
     }
 
     private static void taking() {
-        promise = 17;
+        about("promise 17");
         HeadSplits h = of("xby=abbab");
         h.spell(2, 1);
         due("take", h.take(), 4);
@@ -688,7 +595,7 @@ public final class PromisesTest {
     }
 
     private static void fitting() {
-        promise = 18;
+        about("promise 18");
         HeadSplits h = round(of("xa=ax"));
         due("nothing fits", h.fits(), 0);
         h.spell(0, 1);
@@ -732,7 +639,7 @@ public final class PromisesTest {
     }
 
     private static void lengthsOfWords() {
-        promise = 19;
+        about("promise 19");
         HeadSplits h = of("xab=yb");
         // y has one more: 9 for x and y, 10 for z
         due("lengths 0 -1", h.lengths(0, -1), 90);
@@ -770,7 +677,7 @@ public final class PromisesTest {
     }
 
     private static void shortestWords() {
-        promise = 20;
+        about("promise 20");
         HeadSplits h = of("x=ab");
         due("shortest -1", h.shortest(-1), 2);
         due("ab: the first one lowest", h.shortest(0), 202);
@@ -841,7 +748,7 @@ public final class PromisesTest {
     }
 
     private static void images() {
-        promise = 21;
+        about("promise 21");
         HeadSplits h = round(of("x=a"));
         h.need(0, 0, 2);
         h.spell(1, 1);
@@ -863,7 +770,7 @@ public final class PromisesTest {
     }
 
     private static void restoring() {
-        promise = 22;
+        about("promise 22");
         HeadSplits h = new HeadSplits();
         due("restore 0", h.restore(0), STATE);
         due("restore 1", h.restore(1), STATE);
@@ -907,7 +814,7 @@ public final class PromisesTest {
     }
 
     private static void telling() {
-        promise = 23;
+        about("promise 23");
         HeadSplits h = of("xya=b");
         say(h, "abx");
         due("told 0", h.told(0), 3);
@@ -971,9 +878,6 @@ public final class PromisesTest {
         images();
         restoring();
         telling();
-        System.out.println(wrong == 0 ? "all promises hold" : wrong + " answers are not as due");
-        if (wrong != 0) {
-            System.exit(1);
-        }
+        endWith("all promises hold");
     }
 }
