@@ -8,6 +8,7 @@ import java.util.Map;
 import java.util.Random;
 import java.util.Set;
 import java.util.TreeSet;
+import java.util.function.Consumer;
 
 /**
  * Runs of calls against a plain model: rows and words are texts, needs are sets, each call works
@@ -605,7 +606,10 @@ public final class ModelTest {
 
     /** One run: an object, its model, and what was called, to be told if an answer is wrong. */
     static final class Run {
-        final HeadSplits h = new HeadSplits();
+        /** What was told, so that it can be told again to a new object. */
+        final List<Consumer<HeadSplits>> telling = new ArrayList<>();
+        HeadSplits h = new HeadSplits();
+        int used = 0;
         final Model m = new Model();
         final Random random;
         final List<String> calls = new ArrayList<>();
@@ -617,6 +621,7 @@ public final class ModelTest {
         }
 
         int due(String call, int got, int want) {
+            used++;
             calls.add(call + " " + got);
             if (got != want && !wrong) {
                 wrong = true;
@@ -726,13 +731,50 @@ public final class ModelTest {
             }
         }
 
-        /** All that the net tells; the object may be used for more calls than the document allows: it counts none. */
+        /** The document promises 512 calls of an object: the next questions get a new one. */
+        void renew() {
+            h = new HeadSplits();
+            for (Consumer<HeadSplits> t : telling) {
+                t.accept(h);
+            }
+            used = telling.size();
+        }
+
+        /** An equation, machine and needs at random, once for all. */
+        void tellAtOnce() {
+            for (int k = 0; k < 6; k++) {
+                if (random.nextInt(3) > 0) {
+                    int s = k % 3, c = k / 3, to = random.nextInt(3);
+                    due("leads " + k + " " + to, h.leads(s, c, to), m.leads(s, c, to));
+                    telling.add(x -> x.leads(s, c, to));
+                }
+            }
+            for (int k = 0; k < 9; k++) {
+                if (random.nextInt(3) == 0) {
+                    int v = k / 3, s = k % 3, set = 1 + random.nextInt(7);
+                    due("need " + k + " " + set, h.need(v, s, set), m.need(v, s, set));
+                    telling.add(x -> x.need(v, s, set));
+                }
+            }
+            String signs = equation();
+            sayAll(signs);
+            for (char sign : signs.toCharArray()) {
+                telling.add(x -> x.say(sign));
+            }
+            due("load", h.load(), m.load());
+            telling.add(HeadSplits::load);
+        }
+
         void wholeNet() {
             for (int w = 0; w < 6; w++) {
                 due("net " + w, h.net(w), m.net(w));
             }
             verdicts[m.net(1)]++;
             for (int i = 0; i < m.net(0); i++) {
+                // a node takes some 130 calls at the most
+                if (used > 350) {
+                    renew();
+                }
                 for (int w = 0; w < 7; w++) {
                     due("node " + i + " " + w, h.node(i, w), m.node(i, w));
                 }
@@ -749,6 +791,7 @@ public final class ModelTest {
                     due("needs " + i, h.needs(i, k / 3, k % 3), m.needs(i, k / 3, k % 3));
                 }
             }
+            renew();
             for (int v = 0; v < 3; v++) {
                 for (int i = -1; i <= m.answer(v, -1); i++) {
                     due("answer " + v + " " + i, h.answer(v, i), m.answer(v, i));
@@ -778,7 +821,8 @@ public final class ModelTest {
         int wrong = 0;
         for (int seed = 0; seed < 1500; seed++) {
             Run run = new Run(seed);
-            while (run.calls.size() < 500 && !run.wrong) {
+            // one step of telling takes 28 calls at the most
+            while (run.used < 480 && !run.wrong) {
                 if (run.random.nextInt(3) == 0) {
                     run.tell();
                 } else {
@@ -790,20 +834,7 @@ public final class ModelTest {
         int[] verdicts = new int[3];
         for (int seed = 0; seed < 1500; seed++) {
             Run run = new Run(-1 - seed);
-            for (int k = 0; k < 6; k++) {
-                if (run.random.nextInt(3) > 0) {
-                    int to = run.random.nextInt(3);
-                    run.due("leads " + k + " " + to, run.h.leads(k % 3, k / 3, to), run.m.leads(k % 3, k / 3, to));
-                }
-            }
-            for (int k = 0; k < 9; k++) {
-                if (run.random.nextInt(3) == 0) {
-                    int set = 1 + run.random.nextInt(7);
-                    run.due("need " + k + " " + set, run.h.need(k / 3, k % 3, set), run.m.need(k / 3, k % 3, set));
-                }
-            }
-            run.sayAll(run.equation());
-            run.due("load", run.h.load(), run.m.load());
+            run.tellAtOnce();
             run.wholeNet();
             wrong += run.wrong ? 1 : 0;
             for (int k = 0; k < 3; k++) {

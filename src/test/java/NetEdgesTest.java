@@ -477,6 +477,8 @@ public final class NetEdgesTest extends Checks {
     private static void theNetOfNow() {
         HeadSplits h = of("xyzxy=yxazyx");
         due("150", h.net(0), 150);
+        load(h, "abyaxb=xzayz");
+        dueNet(h, 149, 0, NONE, 10, 0, 2);
         load(h, "x=a");
         dueNet(h, 4, 1, 3, 2, 0, 1);
         due("node 4 0", h.node(4, 0), UNKNOWN);

@@ -72,6 +72,19 @@ public final class WordEdgesTest extends Checks {
         }
     }
 
+    private static void notSolvedAnyMore() {
+        HeadSplits h = of("x=a");
+        dueAnswer(h, 0, "a");
+        load(h, "ax=bx");
+        due("answer 0 -1", h.answer(0, -1), STATE);
+        due("take", h.take(), STATE);
+        load(h, "x=b");
+        dueAnswer(h, 0, "b");
+        h.need(0, 0, 0);
+        due("answer 0 -1, hopeless", h.answer(0, -1), STATE);
+        due("take, hopeless", h.take(), STATE);
+    }
+
     private static void answerOfNoSuchLetter() {
         HeadSplits h = of("x=ab");
         dueAnswer(h, 0, "ab");
@@ -182,6 +195,15 @@ public final class WordEdgesTest extends Checks {
         due("=b", of("=b").fits(), 2);
     }
 
+    private static void fitsOfOneLetter() {
+        due("a=a", of("a=a").fits(), 0);
+        due("a=b", of("a=b").fits(), 2);
+        due("the first is another", of("abb=bbb").fits(), 2);
+        due("the last is another", of("abb=aba").fits(), 2);
+        due("the left row goes on", of("ab=a").fits(), 2);
+        due("the right row goes on", of("a=ab").fits(), 2);
+    }
+
     private static void fitsInFourWays() {
         HeadSplits h = round(of("x=a"));
         h.need(0, 0, 2);
@@ -254,6 +276,21 @@ public final class WordEdgesTest extends Checks {
         due("lengths 0 99", h.lengths(0, 99), 999);
     }
 
+    /** Each that there is, from the least on: twice x and one more are as long as y and z. */
+    private static void lengthsRising() {
+        HeadSplits h = of("xax=yz");
+        int i = 0;
+        for (int code = 0; code <= 999; code++) {
+            if (2 * (code / 100) + 1 == code / 10 % 10 + code % 10) {
+                due("lengths 0 " + i, h.lengths(0, i), code);
+                due("lengths 1 " + i, h.lengths(1, i), code);
+                i++;
+            }
+        }
+        due("lengths 0 -1", h.lengths(0, -1), i);
+        due("lengths 0 " + i, h.lengths(0, i), NONE);
+    }
+
     private static void lengthsOfNone() {
         HeadSplits h = of("a=bb");
         for (int what = 0; what < 3; what++) {
@@ -320,7 +357,9 @@ public final class WordEdgesTest extends Checks {
     }
 
     private static void shortestOfNone() {
-        dueShortest(of("a=b"), NONE, NONE, NONE, NONE);
+        for (String signs : new String[] {"a=b", "ax=baaa", "xa=aaab", "xx=aba", "xyz=zyxb"}) {
+            dueShortest(of(signs), NONE, NONE, NONE, NONE);
+        }
         for (int v = 0; v < 3; v++) {
             HeadSplits h = new HeadSplits();
             h.need(v, 0, 0);
@@ -357,13 +396,43 @@ public final class WordEdgesTest extends Checks {
         dueShortest(h, 3, 100, 100, 101);
     }
 
+    private static int code(String word) {
+        int code = 100 * word.length();
+        for (int k = 0; k < word.length(); k++) {
+            code += word.charAt(k) == 'b' ? 1 << k : 0;
+        }
+        return code;
+    }
+
+    /** Each of the 15 words, of each variable, on each side. */
     private static void lettersAsBits() {
-        dueShortest(of("x=a"), 1, 100, 0, 0);
-        dueShortest(of("x=b"), 1, 101, 0, 0);
-        dueShortest(of("y=ab"), 2, 0, 202, 0);
-        dueShortest(of("y=ba"), 2, 0, 201, 0);
-        dueShortest(of("z=aab"), 3, 0, 0, 304);
-        dueShortest(of("z=baa"), 3, 0, 0, 301);
+        String[] words = {"", "a", "b", "aa", "ab", "ba", "bb", "aaa", "aab", "aba", "abb", "baa", "bab", "bba", "bbb"};
+        int[] codes = {0, 100, 101, 200, 202, 201, 203, 300, 304, 302, 306, 301, 305, 303, 307};
+        for (int n = 0; n < 15; n++) {
+            String w = words[n];
+            dueShortest(of("x=" + w), w.length(), codes[n], 0, 0);
+            dueShortest(of(w + "=y"), w.length(), 0, codes[n], 0);
+            dueShortest(of("bza=b" + w + "a"), w.length(), 0, 0, codes[n]);
+        }
+    }
+
+    /** Of an equation of nothing it is the short word, if that has 3 letters at most; each machine. */
+    private static void shortestIsAShortWord() {
+        for (int n = 0; n < 729; n++) {
+            HeadSplits h = machine(new HeadSplits(), n % 3, n / 3 % 3, n / 9 % 3, n / 27 % 3, n / 81 % 3, n / 243);
+            int v = n % 2 + n / 3 % 2;
+            for (int set = 1; set < 7; set++) {
+                needAll(h, v, set, 7 - set, n % 7 + 1);
+                int size = h.brief(v, -1);
+                StringBuilder word = new StringBuilder();
+                for (int i = 0; i < size; i++) {
+                    word.append((char) ('a' + h.brief(v, i)));
+                }
+                boolean found = size >= 0 && size <= 3;
+                due("machine " + n + ", set " + set + ": together", h.shortest(-1), found ? size : NONE);
+                due("machine " + n + ", set " + set + ": word", h.shortest(v), found ? code(word.toString()) : NONE);
+            }
+        }
     }
 
     private static void shortestUnknown() {
@@ -384,6 +453,7 @@ public final class WordEdgesTest extends Checks {
         h.image(1);
         load(h, "xb=ab");
         dueShortest(h, 1, 100, 0, 0);
+        due("lengths of xb=ab", h.lengths(0, 0), 100);
         load(h, "x=ab");
         dueShortest(h, 2, 202, 0, 0);
         h.restore(1);
@@ -580,6 +650,7 @@ public final class WordEdgesTest extends Checks {
         sentence("known: 60 LETTERS", WordEdgesTest::sixtyLetters);
         sentence("not known: more than 60 LETTERS", WordEdgesTest::sixtyOneLetters);
         sentence("14, 17: STATE, it is not SOLVED", WordEdgesTest::notSolved);
+        sentence("14, 17: STATE, it is not SOLVED any more", WordEdgesTest::notSolvedAnyMore);
         sentence("14: NONE", WordEdgesTest::answerOfNoSuchLetter);
         sentence("14: UNKNOWN", WordEdgesTest::answerUnknown);
         sentence("of up to 12 LETTERS; 15: FULL", WordEdgesTest::wordsOf12Letters);
@@ -590,6 +661,7 @@ public final class WordEdgesTest extends Checks {
         sentence("17: how many LETTERS all have: none", WordEdgesTest::takeOfNothing);
         sentence("17: the WORDS told are those of the ANSWER", WordEdgesTest::takeOfAll);
         sentence("FITS: of nothing", WordEdgesTest::fitsOfNothing);
+        sentence("FITS: they make both rows one", WordEdgesTest::fitsOfOneLetter);
         sentence("18: 0, 1, 2, 3", WordEdgesTest::fitsInFourWays);
         sentence("FITS: each is as its NEED has it", WordEdgesTest::fitsOfWordsInNoRow);
         sentence("FITS: a NEED of 0", WordEdgesTest::fitsOfNone);
@@ -599,6 +671,7 @@ public final class WordEdgesTest extends Checks {
     private static void lengthsAndShortest() {
         sentence("LENGTHS: of each VARIABLE 0 to 9", WordEdgesTest::lengthsFrom0To9);
         sentence("100 times that of x, 10 times that of y, and that of z", WordEdgesTest::lengthsOfEach);
+        sentence("LENGTHS: how many, the i-th (rising)", WordEdgesTest::lengthsRising);
         sentence("LENGTHS: none", WordEdgesTest::lengthsOfNone);
         sentence("as many a's, and as many b's", WordEdgesTest::lengthsOfAsAndBs);
         sentence("19: NONE", WordEdgesTest::lengthsOfNoSuchOne);
@@ -610,6 +683,7 @@ public final class WordEdgesTest extends Checks {
         sentence("the first by x, then by y, then by z", WordEdgesTest::theFirstByXThenYThenZ);
         sentence("of as short by letters", WordEdgesTest::ofAsShortByLetters);
         sentence("20: LETTERS as bits, the first one lowest", WordEdgesTest::lettersAsBits);
+        sentence("of all WORDS that FIT, by NEEDS alone", WordEdgesTest::shortestIsAShortWord);
         sentence("20: UNKNOWN", WordEdgesTest::shortestUnknown);
         sentence("20: of what is told", WordEdgesTest::shortestOfNow);
     }
